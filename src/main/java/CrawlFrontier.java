@@ -696,7 +696,8 @@ public final class CrawlFrontier {
         }
     }
 
-    // No well-formed text outgrows canon or part; the tests keep that visible at the index.
+    // No text of the buffer can outgrow canon or part; the bound stands here so that an index
+    // is never trusted unseen.
     private void append(int c) {
         if (canonLength < CANON_SIZE) {
             canon[canonLength] = c;

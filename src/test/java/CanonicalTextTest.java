@@ -39,6 +39,7 @@ public final class CanonicalTextTest {
         String[] wrong = {"", "h", "http", "https", "http:", "http:/", "http://", "https://", "http:a", "http:/a",
             "http//a", "http/://a", "://a", "//a", "/", ":", "a", "httq://a", "gttp://a", "hutp://a", "htup://a",
             "httpt://a", "httpS", "httpss://a", "htt://a", "ftp://a", "http:://a", "http:/:/a", "http:a//b",
+            "http:a/b", "http:/ab",
             "xhttp://a", "http!://a", "ht/p://a", "ht#p://a", "ht?p://a", "#http://a",
             "http#://a", "http?://a", "a.b/c", "HTTP//a:80/", "http:\\\\a", "%68ttp://a", "http:/%2Fa",
             "(ttp://a", "HTT0://a", "Http[://a", "http@://a"};

@@ -3,6 +3,7 @@ public final class DisallowTest {
     public static void main(String[] args) {
         blocks();
         touchesNothingElse();
+        longPrefix();
         duplicates();
         fullList();
         fullPool();
@@ -67,6 +68,17 @@ public final class DisallowTest {
                 + "\n  kind 2 / -1 0 -1 -1 -1 -1 -1"
                 + "\n  kind 2 /z?y -1 2 -1 -1 -1 -1 -1"
                 + "\n  buffer ");
+    }
+
+    // A prefix longer than the path must not be read on into the next URL.
+    private static void longPrefix() {
+        CrawlFrontier x = new CrawlFrontier(8, 4);
+        Check.submit(x, "http://a/x");
+        Check.submit(x, "http://b/y");
+        Check.due("disallow", Check.disallow(x, "http://a/xhttp"), 0);
+        Check.due("disallow", Check.disallow(x, "http://a/xh"), 0);
+        Check.due("queued", x.count(CrawlFrontier.COUNT_QUEUED), 2);
+        Check.due("disallow", Check.disallow(x, "http://a/x"), 1);
     }
 
     private static void duplicates() {

@@ -19,7 +19,8 @@ public final class ModelTest {
     private static final String[] SCHEMES = {"http", "https", "HTTP", "hTTps", "http", "http", "ftp", ""};
     private static final String[] HOSTS = {"a", "A", "b", "c", "d.e", "D.E", "f-", "g0", "h", "i", "j", "",
         "abcdefghijklmnop", "abcdefghijklmnopq", "a_b"};
-    private static final String[] PORTS = {"", "", "", "", ":80", ":443", ":0080", ":81", ":65535", ":65536", ":", ":0"};
+    private static final String[] PORTS = {"", "", "", "", ":80", ":443", ":0080", ":81", ":65535", ":65536", ":",
+        ":0"};
     private static final String[] PIECES = {"/", "/", "/", ".", "..", "a", "b", "A", "%61", "%2e", "%2E", "%2f", "%7E",
         "%", "?", "#", ":", "xyz", "%4", "/../", "/./", "%C3%a9", "longerpiece"};
 
@@ -183,7 +184,8 @@ public final class ModelTest {
                     + " " + clock + " " + inState(1) + " " + inState(2) + " " + inState(3) + " " + urlChars() + " "
                     + ruleChars() + " " + maxUrls + " " + defaultDelay);
             for (Url u : urls) {
-                all.append("\n  kind 0 " + u.text + " " + u.state + " " + hostId(u.host) + " " + u.time + " -1 -1 -1 -1");
+                all.append("\n  kind 0 " + u.text + " " + u.state + " " + hostId(u.host) + " " + u.time
+                        + " -1 -1 -1 -1");
             }
             for (String name : hosts.keySet()) {
                 Host h = hosts.get(name);

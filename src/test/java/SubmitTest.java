@@ -4,6 +4,7 @@ public final class SubmitTest {
         grows();
         duplicateInEveryState();
         disallowed();
+        shorterThanTheRule();
         fullList();
         fullPool();
         noHostRoom();
@@ -76,6 +77,17 @@ public final class SubmitTest {
         for (int i = 0; i < fine.length; i++) {
             Check.due("submit of " + fine[i], Check.submit(x, fine[i]), i);
         }
+    }
+
+    // What an earlier, longer text left behind must not count as part of this one.
+    private static void shorterThanTheRule() {
+        CrawlFrontier x = new CrawlFrontier(20, 5);
+        Check.disallow(x, "http://a/xyz");
+        Check.due("shorter by two", Check.submit(x, "http://a/x"), 0);
+        refuses(x, "http://a/xyz", CrawlFrontier.DISALLOWED);
+        Check.due("shorter by one", Check.submit(x, "http://a/xy"), 1);
+        refuses(x, "http://a/xyz", CrawlFrontier.DISALLOWED);
+        Check.due("shorter by three", Check.submit(x, "http://a"), 2);
     }
 
     private static void fullList() {
