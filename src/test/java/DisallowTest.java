@@ -11,12 +11,6 @@ public final class DisallowTest {
         Check.end();
     }
 
-    private static void refuses(CrawlFrontier x, String text, int due) {
-        String before = Check.everything(x);
-        Check.due("disallow of " + text, Check.disallow(x, text), due);
-        Check.due("state after " + text, Check.everything(x), before);
-    }
-
     private static void blocks() {
         CrawlFrontier x = new CrawlFrontier(20, 4);
         String[] urls = {"http://a/p", "https://a/p", "http://a:8/p?q", "http://a/pq", "http://b/p", "http://a/P",
@@ -84,12 +78,12 @@ public final class DisallowTest {
     private static void duplicates() {
         CrawlFrontier x = new CrawlFrontier(8, 4);
         Check.disallow(x, "http://a/p");
-        refuses(x, "http://a/p", CrawlFrontier.DUPLICATE);
-        refuses(x, "https://A:9/./%70#f", CrawlFrontier.DUPLICATE);
-        refuses(x, "", CrawlFrontier.BAD_URL);
-        refuses(x, "/p", CrawlFrontier.BAD_URL);
-        refuses(x, "ftp://a/p", CrawlFrontier.BAD_URL);
-        refuses(x, "http://a:65536/p", CrawlFrontier.BAD_URL);
+        Check.disallowRefused(x, "http://a/p", CrawlFrontier.DUPLICATE);
+        Check.disallowRefused(x, "https://A:9/./%70#f", CrawlFrontier.DUPLICATE);
+        Check.disallowRefused(x, "", CrawlFrontier.BAD_URL);
+        Check.disallowRefused(x, "/p", CrawlFrontier.BAD_URL);
+        Check.disallowRefused(x, "ftp://a/p", CrawlFrontier.BAD_URL);
+        Check.disallowRefused(x, "http://a:65536/p", CrawlFrontier.BAD_URL);
         Check.due("other host", Check.disallow(x, "http://b/p"), 0);
         Check.due("other case", Check.disallow(x, "http://a/P"), 0);
         Check.due("longer", Check.disallow(x, "http://a/pp"), 0);
@@ -105,10 +99,10 @@ public final class DisallowTest {
         for (int i = 0; i < 8; i++) {
             Check.due("disallow " + i, Check.disallow(x, "http://a/" + i), 0);
         }
-        refuses(x, "http://a/9", CrawlFrontier.FULL);
-        refuses(x, "http://b/9", CrawlFrontier.FULL);
-        refuses(x, "http://a/7", CrawlFrontier.DUPLICATE);
-        refuses(x, "http://a/%", CrawlFrontier.BAD_URL);
+        Check.disallowRefused(x, "http://a/9", CrawlFrontier.FULL);
+        Check.disallowRefused(x, "http://b/9", CrawlFrontier.FULL);
+        Check.disallowRefused(x, "http://a/7", CrawlFrontier.DUPLICATE);
+        Check.disallowRefused(x, "http://a/%", CrawlFrontier.BAD_URL);
     }
 
     private static void fullPool() {
@@ -118,13 +112,13 @@ public final class DisallowTest {
         Check.disallow(x, "http://b/" + thirtyNine);
         Check.disallow(x, "http://a?" + thirtyNine);
         Check.due("rule chars", x.count(CrawlFrontier.COUNT_RULE_CHARS), 121);
-        refuses(x, "http://a/2345678", CrawlFrontier.FULL);
-        refuses(x, "http://c/" + thirtyNine, CrawlFrontier.FULL);
-        refuses(x, "http://b/" + thirtyNine, CrawlFrontier.DUPLICATE);
+        Check.disallowRefused(x, "http://a/2345678", CrawlFrontier.FULL);
+        Check.disallowRefused(x, "http://c/" + thirtyNine, CrawlFrontier.FULL);
+        Check.disallowRefused(x, "http://b/" + thirtyNine, CrawlFrontier.DUPLICATE);
         Check.due("just fits", Check.disallow(x, "http://a/234567"), 0);
         Check.due("rule chars", x.count(CrawlFrontier.COUNT_RULE_CHARS), 128);
         Check.due("text", Check.text(x, CrawlFrontier.KIND_RULE, 3), "/234567");
-        refuses(x, "http://b", CrawlFrontier.FULL);
+        Check.disallowRefused(x, "http://b", CrawlFrontier.FULL);
     }
 
     private static void noHostRoom() {
@@ -133,9 +127,9 @@ public final class DisallowTest {
             Check.due("disallow " + i, Check.disallow(x, "http://h" + i), 0);
         }
         Check.setDelay(x, "http://h7", 2);
-        refuses(x, "http://h8", CrawlFrontier.NO_HOST_ROOM);
-        refuses(x, "http://h6", CrawlFrontier.DUPLICATE);
+        Check.disallowRefused(x, "http://h8", CrawlFrontier.NO_HOST_ROOM);
+        Check.disallowRefused(x, "http://h6", CrawlFrontier.DUPLICATE);
         Check.due("known host", Check.disallow(x, "http://h7"), 0);
-        refuses(x, "http://h8", CrawlFrontier.FULL);
+        Check.disallowRefused(x, "http://h8", CrawlFrontier.FULL);
     }
 }

@@ -7,12 +7,6 @@ public final class SetDelayTest {
         Check.end();
     }
 
-    private static void refuses(CrawlFrontier x, String text, int delay, int due) {
-        String before = Check.everything(x);
-        Check.due("setDelay of " + text + " to " + delay, Check.setDelay(x, text, delay), due);
-        Check.due("state after " + text, Check.everything(x), before);
-    }
-
     private static void sets() {
         CrawlFrontier x = new CrawlFrontier(8, 3);
         Check.submit(x, "http://a/1");
@@ -43,15 +37,15 @@ public final class SetDelayTest {
         Check.submit(x, "http://a/1");
         int[] wrong = {0, 17, -1, 18, 1 << 8, (1 << 16) + 1, Integer.MIN_VALUE, Integer.MAX_VALUE};
         for (int delay : wrong) {
-            refuses(x, "http://a/1", delay, CrawlFrontier.BAD_DELAY);
-            refuses(x, "http://b/1", delay, CrawlFrontier.BAD_DELAY);
-            refuses(x, "", delay, CrawlFrontier.BAD_DELAY);
-            refuses(x, "nonsense", delay, CrawlFrontier.BAD_DELAY);
+            Check.setDelayRefused(x, "http://a/1", delay, CrawlFrontier.BAD_DELAY);
+            Check.setDelayRefused(x, "http://b/1", delay, CrawlFrontier.BAD_DELAY);
+            Check.setDelayRefused(x, "", delay, CrawlFrontier.BAD_DELAY);
+            Check.setDelayRefused(x, "nonsense", delay, CrawlFrontier.BAD_DELAY);
         }
         String[] malformed = {"", "a", "http:/a", "ftp://a", "http://a:x", "http://a/%", "http://a?%1", "http://a_b"};
         for (String text : malformed) {
-            refuses(x, text, 1, CrawlFrontier.BAD_URL);
-            refuses(x, text, 16, CrawlFrontier.BAD_URL);
+            Check.setDelayRefused(x, text, 1, CrawlFrontier.BAD_URL);
+            Check.setDelayRefused(x, text, 16, CrawlFrontier.BAD_URL);
         }
     }
 
@@ -60,9 +54,9 @@ public final class SetDelayTest {
         for (int i = 0; i < 8; i++) {
             Check.due("setDelay " + i, Check.setDelay(x, "http://h" + i, i + 1), i);
         }
-        refuses(x, "http://h8", 5, CrawlFrontier.NO_HOST_ROOM);
-        refuses(x, "http://h8", 17, CrawlFrontier.BAD_DELAY);
-        refuses(x, "http://h8:", 5, CrawlFrontier.BAD_URL);
+        Check.setDelayRefused(x, "http://h8", 5, CrawlFrontier.NO_HOST_ROOM);
+        Check.setDelayRefused(x, "http://h8", 17, CrawlFrontier.BAD_DELAY);
+        Check.setDelayRefused(x, "http://h8:", 5, CrawlFrontier.BAD_URL);
         Check.due("known host", Check.setDelay(x, "http://h7", 5), 7);
         for (int i = 0; i < 8; i++) {
             Check.due("delay " + i, x.info(CrawlFrontier.KIND_HOST, i, CrawlFrontier.F_DELAY), i == 7 ? 5 : i + 1);

@@ -33,12 +33,6 @@ public final class SubmitTest {
                 + "\n  buffer ");
     }
 
-    private static void refuses(CrawlFrontier x, String text, int due) {
-        String before = Check.everything(x);
-        Check.due("submit of " + text, Check.submit(x, text), due);
-        Check.due("state after " + text, Check.everything(x), before);
-    }
-
     private static void duplicateInEveryState() {
         CrawlFrontier x = new CrawlFrontier(8, 5);
         Check.submit(x, "http://a/1");
@@ -48,12 +42,12 @@ public final class SubmitTest {
         x.tick(1);
         Check.due("dispatched", x.info(CrawlFrontier.KIND_URL, 0, CrawlFrontier.F_STATE),
                 CrawlFrontier.STATE_DISPATCHED);
-        refuses(x, "http://a/1", CrawlFrontier.DUPLICATE);
-        refuses(x, "http://a/2", CrawlFrontier.DUPLICATE);
-        refuses(x, "http://a/3", CrawlFrontier.DUPLICATE);
-        refuses(x, "HTTP://A:080/x/../%33#4", CrawlFrontier.DUPLICATE);
-        refuses(x, "", CrawlFrontier.BAD_URL);
-        refuses(x, "http://a/%3", CrawlFrontier.BAD_URL);
+        Check.submitRefused(x, "http://a/1", CrawlFrontier.DUPLICATE);
+        Check.submitRefused(x, "http://a/2", CrawlFrontier.DUPLICATE);
+        Check.submitRefused(x, "http://a/3", CrawlFrontier.DUPLICATE);
+        Check.submitRefused(x, "HTTP://A:080/x/../%33#4", CrawlFrontier.DUPLICATE);
+        Check.submitRefused(x, "", CrawlFrontier.BAD_URL);
+        Check.submitRefused(x, "http://a/%3", CrawlFrontier.BAD_URL);
         Check.due("other scheme", Check.submit(x, "https://a/1"), 3);
         Check.due("other port", Check.submit(x, "http://a:81/1"), 4);
         Check.due("shorter", Check.submit(x, "http://a/"), 5);
@@ -65,13 +59,13 @@ public final class SubmitTest {
         CrawlFrontier x = new CrawlFrontier(20, 5);
         Check.disallow(x, "https://a:8080/p?q#f");
         Check.disallow(x, "http://b/A/");
-        refuses(x, "http://a/p?q", CrawlFrontier.DISALLOWED);
-        refuses(x, "https://a/p?q", CrawlFrontier.DISALLOWED);
-        refuses(x, "http://a:99/p?qr", CrawlFrontier.DISALLOWED);
-        refuses(x, "http://a/x/../p?q=1#f", CrawlFrontier.DISALLOWED);
-        refuses(x, "http://a/%70?%71", CrawlFrontier.DISALLOWED);
-        refuses(x, "http://b/A/", CrawlFrontier.DISALLOWED);
-        refuses(x, "http://b/A/b", CrawlFrontier.DISALLOWED);
+        Check.submitRefused(x, "http://a/p?q", CrawlFrontier.DISALLOWED);
+        Check.submitRefused(x, "https://a/p?q", CrawlFrontier.DISALLOWED);
+        Check.submitRefused(x, "http://a:99/p?qr", CrawlFrontier.DISALLOWED);
+        Check.submitRefused(x, "http://a/x/../p?q=1#f", CrawlFrontier.DISALLOWED);
+        Check.submitRefused(x, "http://a/%70?%71", CrawlFrontier.DISALLOWED);
+        Check.submitRefused(x, "http://b/A/", CrawlFrontier.DISALLOWED);
+        Check.submitRefused(x, "http://b/A/b", CrawlFrontier.DISALLOWED);
         String[] fine = {"http://a/p", "http://a/p?", "http://a/p?Q", "http://a/P?q", "http://a/pp?q", "http://b/A",
             "http://b/a/", "http://b/p?q", "http://c/p?q", "http://aa/p?q", "http://a/x/p?q"};
         for (int i = 0; i < fine.length; i++) {
@@ -84,9 +78,9 @@ public final class SubmitTest {
         CrawlFrontier x = new CrawlFrontier(20, 5);
         Check.disallow(x, "http://a/xyz");
         Check.due("shorter by two", Check.submit(x, "http://a/x"), 0);
-        refuses(x, "http://a/xyz", CrawlFrontier.DISALLOWED);
+        Check.submitRefused(x, "http://a/xyz", CrawlFrontier.DISALLOWED);
         Check.due("shorter by one", Check.submit(x, "http://a/xy"), 1);
-        refuses(x, "http://a/xyz", CrawlFrontier.DISALLOWED);
+        Check.submitRefused(x, "http://a/xyz", CrawlFrontier.DISALLOWED);
         Check.due("shorter by three", Check.submit(x, "http://a"), 2);
     }
 
@@ -96,45 +90,36 @@ public final class SubmitTest {
         for (int i = 0; i < 8; i++) {
             Check.due("submit " + i, Check.submit(x, "http://a/" + i), i);
         }
-        refuses(x, "http://a/8", CrawlFrontier.FULL);
-        refuses(x, "http://new/8", CrawlFrontier.FULL);
-        refuses(x, "http://a/7", CrawlFrontier.DUPLICATE);
-        refuses(x, "http://a/no", CrawlFrontier.DISALLOWED);
-        refuses(x, "http://a/%", CrawlFrontier.BAD_URL);
+        Check.submitRefused(x, "http://a/8", CrawlFrontier.FULL);
+        Check.submitRefused(x, "http://new/8", CrawlFrontier.FULL);
+        Check.submitRefused(x, "http://a/7", CrawlFrontier.DUPLICATE);
+        Check.submitRefused(x, "http://a/no", CrawlFrontier.DISALLOWED);
+        Check.submitRefused(x, "http://a/%", CrawlFrontier.BAD_URL);
         x.tick(64);
-        refuses(x, "http://a/8", CrawlFrontier.FULL);
+        Check.submitRefused(x, "http://a/8", CrawlFrontier.FULL);
         Check.disallow(x, "http://a/");
-        refuses(x, "http://b/8", CrawlFrontier.FULL);
-    }
-
-    // A text of the given length.
-    private static String sized(int length, char mark) {
-        StringBuilder text = new StringBuilder("http://a/").append(mark);
-        while (text.length() < length) {
-            text.append('.').append(mark);
-        }
-        return text.substring(0, length);
+        Check.submitRefused(x, "http://b/8", CrawlFrontier.FULL);
     }
 
     private static void fullPool() {
         CrawlFrontier x = new CrawlFrontier(32, 1);
         for (int i = 0; i < 5; i++) {
-            Check.due("submit of 48", Check.submit(x, sized(48, (char) ('p' + i))), i);
+            Check.due("submit of 48", Check.submit(x, Made.text(48, (char) ('p' + i))), i);
         }
         Check.due("chars", x.count(CrawlFrontier.COUNT_URL_CHARS), 240);
-        refuses(x, sized(17, 'x'), CrawlFrontier.FULL);
-        refuses(x, sized(48, 'x'), CrawlFrontier.FULL);
-        Check.due("submit of 15", Check.submit(x, sized(15, 'y')), 5);
-        refuses(x, "http://a", CrawlFrontier.FULL);
-        refuses(x, sized(15, 'y'), CrawlFrontier.DUPLICATE);
+        Check.submitRefused(x, Made.text(17, 'x'), CrawlFrontier.FULL);
+        Check.submitRefused(x, Made.text(48, 'x'), CrawlFrontier.FULL);
+        Check.due("submit of 15", Check.submit(x, Made.text(15, 'y')), 5);
+        Check.submitRefused(x, "http://a", CrawlFrontier.FULL);
+        Check.submitRefused(x, Made.text(15, 'y'), CrawlFrontier.DUPLICATE);
         CrawlFrontier exact = new CrawlFrontier(32, 1);
         for (int i = 0; i < 5; i++) {
-            Check.submit(exact, sized(48, (char) ('p' + i)));
+            Check.submit(exact, Made.text(48, (char) ('p' + i)));
         }
-        Check.due("submit of 16", Check.submit(exact, sized(16, 'z')), 5);
+        Check.due("submit of 16", Check.submit(exact, Made.text(16, 'z')), 5);
         Check.due("chars", exact.count(CrawlFrontier.COUNT_URL_CHARS), 256);
-        Check.due("last text", Check.text(exact, CrawlFrontier.KIND_URL, 5), sized(16, 'z'));
-        refuses(exact, "http://a", CrawlFrontier.FULL);
+        Check.due("last text", Check.text(exact, CrawlFrontier.KIND_URL, 5), Made.text(16, 'z'));
+        Check.submitRefused(exact, "http://a", CrawlFrontier.FULL);
     }
 
     private static void noHostRoom() {
@@ -142,9 +127,9 @@ public final class SubmitTest {
         for (int i = 0; i < 8; i++) {
             Check.due("submit " + i, Check.submit(x, "http://h" + i), i);
         }
-        refuses(x, "http://h8", CrawlFrontier.NO_HOST_ROOM);
-        refuses(x, "http://h", CrawlFrontier.NO_HOST_ROOM);
-        refuses(x, "http://h00", CrawlFrontier.NO_HOST_ROOM);
+        Check.submitRefused(x, "http://h8", CrawlFrontier.NO_HOST_ROOM);
+        Check.submitRefused(x, "http://h", CrawlFrontier.NO_HOST_ROOM);
+        Check.submitRefused(x, "http://h00", CrawlFrontier.NO_HOST_ROOM);
         Check.due("known host", Check.submit(x, "http://h7/x"), 8);
         Check.due("its host", x.info(CrawlFrontier.KIND_URL, 8, CrawlFrontier.F_HOST), 7);
     }
@@ -154,11 +139,11 @@ public final class SubmitTest {
         for (int i = 0; i < 8; i++) {
             Check.submit(x, "http://h" + i);
         }
-        refuses(x, "http://h8", CrawlFrontier.FULL);
+        Check.submitRefused(x, "http://h8", CrawlFrontier.FULL);
         Check.disallow(x, "http://h3");
-        refuses(x, "http://h3/", CrawlFrontier.DUPLICATE);
-        refuses(x, "http://h3/x", CrawlFrontier.DISALLOWED);
-        refuses(x, "http://h4/x", CrawlFrontier.FULL);
-        refuses(x, "http://h8:/", CrawlFrontier.BAD_URL);
+        Check.submitRefused(x, "http://h3/", CrawlFrontier.DUPLICATE);
+        Check.submitRefused(x, "http://h3/x", CrawlFrontier.DISALLOWED);
+        Check.submitRefused(x, "http://h4/x", CrawlFrontier.FULL);
+        Check.submitRefused(x, "http://h8:/", CrawlFrontier.BAD_URL);
     }
 }
