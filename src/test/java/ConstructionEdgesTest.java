@@ -124,6 +124,9 @@ public final class ConstructionEdgesTest {
         for (String text : texts) {
             Check.submit(x, text);
             keeps(x);
+            x.tick(1);
+            keeps(x);
+            Check.submit(x, text + "/0");
             Check.disallow(x, text);
             keeps(x);
             Check.setDelay(x, text, 16);

@@ -56,6 +56,7 @@ public final class ReadersEdgesTest {
         for (int what : FAR) {
             x.count(what);
         }
+        Check.due("buffer", Check.buffer(x), "http://e");
         Check.due("state", Check.everything(x), before);
     }
 
@@ -90,7 +91,7 @@ public final class ReadersEdgesTest {
     private static void atAllTimes(Consumer<CrawlFrontier> holds) {
         CrawlFrontier x = new CrawlFrontier(16, 2);
         holds.accept(x);
-        String[] texts = {"http://a/1", "http://b/1", "http://a/2", "http://c/1", "http://a/1", "bad", "", "http://b/2",
+        String[] texts = {"http://a/1", "http://b/1", "http://a/2", "http://a/3", "http://a/1", "bad", "", "http://b/2",
             "http://a/11", "http://d/x", "http://e/y", "http://f", "http://g", "http://h", "http://i"};
         for (int i = 0; i < texts.length; i++) {
             Check.submit(x, texts[i]);
@@ -99,7 +100,7 @@ public final class ReadersEdgesTest {
                 Check.disallow(x, texts[i]);
                 holds.accept(x);
             }
-            if (i % 3 == 0) {
+            if (i % 4 == 3) {
                 x.tick(1);
                 holds.accept(x);
             }
@@ -162,6 +163,7 @@ public final class ReadersEdgesTest {
                 x.textLength(kind, index);
             }
         }
+        Check.due("buffer", Check.buffer(x), "http://e");
         Check.due("state", Check.everything(x), before);
     }
 
@@ -251,6 +253,7 @@ public final class ReadersEdgesTest {
                 }
             }
         }
+        Check.due("buffer", Check.buffer(x), "http://e");
         Check.due("state", Check.everything(x), before);
     }
 
@@ -393,6 +396,7 @@ public final class ReadersEdgesTest {
                 }
             }
         }
+        Check.due("buffer", Check.buffer(x), "http://e");
         Check.due("state", Check.everything(x), before);
     }
 

@@ -74,8 +74,9 @@ public final class SubmitEdgesTest {
         Check.due("other port", Check.submit(x, "http://a:81/1"), 6);
         Check.due("longer by one", Check.submit(x, "http://a/11"), 7);
         Check.due("shorter by one", Check.submit(x, "http://a/"), 8);
-        Check.due("other last character", Check.submit(x, "http://b/2"), 9);
-        Check.due("other case", Check.submit(x, "https://c:81/X?y"), 10);
+        Check.due("longer by the next one", Check.submit(x, "http://a/1http://a/2"), 9);
+        Check.due("other last character", Check.submit(x, "http://b/2"), 10);
+        Check.due("other case", Check.submit(x, "https://c:81/X?y"), 11);
     }
 
     private static void disallowed() {

@@ -343,5 +343,10 @@ public final class TickEdgesTest {
         Check.due("next", Check.next(x, 0), greatest);
         Check.due("none any more", x.tick(15), 0);
         Check.due("clock", clock(x), greatest);
+        // Beyond it any answer will do, but no call throws.
+        x.tick(64);
+        Check.submit(x, "http://b/1");
+        x.tick(64);
+        Check.everything(x);
     }
 }
