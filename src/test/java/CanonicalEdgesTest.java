@@ -13,6 +13,8 @@ public final class CanonicalEdgesTest {
     // ---- URL syntax ----
 
     private static void syntax() {
+        Check.sentence("The buffer text is split left to right into the following parts.",
+                CanonicalEdgesTest::leftToRight);
         Check.sentence("the characters before the first `:`.", CanonicalEdgesTest::firstColon);
         Check.sentence("If there is no `:` at all, the text is malformed.", () -> Check.malformed("http", "https//a",
                 "http//a/b", "a", "/", "//a", "#", "?", "a.b", "httpx//a?b#c", "http///a", "https///a/b", "http?//a",
@@ -29,6 +31,25 @@ public final class CanonicalEdgesTest {
         Check.sentence("It is lowercased.", CanonicalEdgesTest::hostLowercased);
         Check.sentence("Anything that does not fit is malformed.", CanonicalEdgesTest::doesNotFit);
         Check.sentence("An empty buffer is malformed.", CanonicalEdgesTest::emptyBuffer);
+    }
+
+    /** Every part, present and absent, with the delimiters in it that do not end it. */
+    private static void leftToRight() {
+        String[] ports = {"", ":8"};
+        String[] paths = {"", "/", "/:", "/p:/@q"};
+        String[] queries = {"", "?", "?:/?", "?q/../."};
+        String[] fragments = {"", "#", "#:/?#", "#%/../?"};
+        for (String port : ports) {
+            for (String path : paths) {
+                for (String query : queries) {
+                    for (String fragment : fragments) {
+                        String canonicalPath = path.isEmpty() ? "/" : path;
+                        Check.gives("http://h" + port + path + query + fragment,
+                                "http://h" + port + canonicalPath + query);
+                    }
+                }
+            }
+        }
     }
 
     private static void firstColon() {
@@ -358,6 +379,7 @@ public final class CanonicalEdgesTest {
     // ---- canonical text and path-and-query ----
 
     private static void canonicalText() {
+        Check.sentence("CANONICAL TEXT = scheme + `://` + host + port part + path + query", CanonicalEdgesTest::joined);
         Check.sentence("the port part is present exactly when a port is present and its value differs from the"
                 + " scheme's default port;", CanonicalEdgesTest::portPart);
         Check.sentence("it is then `:` + the port in decimal without leading zeros.",
@@ -369,6 +391,14 @@ public final class CanonicalEdgesTest {
         Check.sentence("Its PATH-AND-QUERY is the path followed by the query.", CanonicalEdgesTest::pathAndQuery);
         Check.sentence("Example: `HTTP://Ex.COM:80/a/./b/../%7ex#f` gives `http://ex.com/a/~x`.",
                 () -> Check.gives("HTTP://Ex.COM:80/a/./b/../%7ex#f", "http://ex.com/a/~x"));
+    }
+
+    private static void joined() {
+        Check.gives("http://h", "http://h/");
+        Check.gives("https://h", "https://h/");
+        Check.gives("HTTP://H.I-J:0081/P/./%7e?Q=%7e&%2f#F", "http://h.i-j:81/P/~?Q=~&%2F");
+        Check.gives("Https://0.-:80/?/../#", "https://0.-:80/?/../");
+        Check.gives("httpS://ABCDEFGHIJKLMNOP:65535/..?", "https://abcdefghijklmnop:65535/?");
     }
 
     private static void portPart() {

@@ -1,3 +1,4 @@
+import java.io.DataInputStream;
 import java.io.IOException;
 import java.lang.reflect.Constructor;
 import java.lang.reflect.Field;
@@ -6,6 +7,8 @@ import java.lang.reflect.Modifier;
 import java.nio.file.Files;
 import java.nio.file.Path;
 import java.util.Arrays;
+import java.util.LinkedHashMap;
+import java.util.Map;
 import java.util.Set;
 import java.util.TreeSet;
 import java.util.regex.Matcher;
@@ -32,6 +35,8 @@ public final class LanguageTest {
         fields();
         methods();
         words();
+        calls();
+        classFile();
         Check.end();
     }
 
@@ -89,9 +94,13 @@ public final class LanguageTest {
         Check.due("methods", open.toString(), new TreeSet<>(Arrays.asList(METHODS)).toString());
     }
 
-    private static void words() throws IOException {
+    private static String code() throws IOException {
         String source = Files.readString(Path.of("src/main/java/CrawlFrontier.java"));
-        String code = source.replaceAll("(?s)/\\*.*?\\*/", "").replaceAll("//.*", "");
+        return source.replaceAll("(?s)/\\*.*?\\*/", "").replaceAll("//.*", "");
+    }
+
+    private static void words() throws IOException {
+        String code = code();
         code = code.replaceFirst("public final class CrawlFrontier", "");
         Matcher word = Pattern.compile("\\b(" + BANNED + ")\\b").matcher(code);
         while (word.find()) {
@@ -109,5 +118,61 @@ public final class LanguageTest {
         while (call.find()) {
             Check.due("call inside " + call.group().trim(), 1, 0);
         }
+    }
+
+    /** No recursion, calls at most six deep, and no method longer than some sixty lines. */
+    private static void calls() throws IOException {
+        Map<String, String> bodies = new LinkedHashMap<>();
+        Matcher method = Pattern.compile("(?ms)^    (?:public|private) [^;={]*?(\\w+)\\([^)]*\\) \\{$(.*?)^    \\}$")
+                .matcher(code());
+        while (method.find()) {
+            bodies.put(method.group(1), method.group(2));
+            Check.due("length of " + method.group(1), method.group(2).lines().count() <= 60 ? 1 : 0, 1);
+        }
+        int declared = CrawlFrontier.class.getDeclaredMethods().length + 1;
+        Check.due("methods and constructor found in the source", bodies.size(), declared);
+        for (String name : bodies.keySet()) {
+            Check.due("calls of " + name + " at most six deep", depth(bodies, name, 7) <= 6 ? 1 : 0, 1);
+        }
+    }
+
+    /** A recursion has no depth of its own; it is seen as a depth above the limit. */
+    private static int depth(Map<String, String> bodies, String name, int limit) {
+        int deepest = 0;
+        Matcher called = Pattern.compile("\\b(\\w+)\\(").matcher(bodies.get(name));
+        while (limit > 1 && called.find()) {
+            if (bodies.containsKey(called.group(1))) {
+                deepest = Math.max(deepest, depth(bodies, called.group(1), limit - 1));
+            }
+        }
+        return deepest + 1;
+    }
+
+    /** The class file names no class but its own and the one above it, and starts no static field by code. */
+    private static void classFile() throws IOException {
+        Map<Integer, String> texts = new LinkedHashMap<>();
+        Set<Integer> classes = new TreeSet<>();
+        try (DataInputStream in = new DataInputStream(CrawlFrontier.class.getResourceAsStream("CrawlFrontier.class"))) {
+            in.skipNBytes(8);
+            int size = in.readUnsignedShort();
+            for (int i = 1; i < size; i++) {
+                int tag = in.readUnsignedByte();
+                if (tag == 1) {
+                    texts.put(i, in.readUTF());
+                } else if (tag == 7) {
+                    classes.add(in.readUnsignedShort());
+                } else {
+                    // Method handles have 3 bytes; strings, types, modules 2; longs and doubles 8 and two places.
+                    in.skipNBytes(tag == 15 ? 3 : tag == 8 || tag == 16 || tag > 18 ? 2 : tag == 5 || tag == 6 ? 8 : 4);
+                    i += tag == 5 || tag == 6 ? 1 : 0;
+                }
+            }
+        }
+        Set<String> named = new TreeSet<>();
+        for (int i : classes) {
+            named.add(texts.get(i));
+        }
+        Check.due("classes named", named.toString(), "[CrawlFrontier, java/lang/Object]");
+        Check.due("static initialiser", texts.containsValue("<clinit>") ? 1 : 0, 0);
     }
 }

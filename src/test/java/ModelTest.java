@@ -305,7 +305,28 @@ public final class ModelTest {
         Check.due(run + "state", Check.everything(x), model.everything());
     }
 
+    /** Every text that goes on with up to five of these eight characters. */
+    private static void everyShortTail(String head) {
+        String letters = "/.?#%2e:";
+        for (int length = 0; length <= 5; length++) {
+            for (int number = 0; number < 1 << 3 * length; number++) {
+                StringBuilder text = new StringBuilder(head);
+                for (int i = 0; i < length; i++) {
+                    text.append(letters.charAt(number >> 3 * i & 7));
+                }
+                CrawlFrontier x = new CrawlFrontier(8, 1);
+                Model model = new Model(8, 1);
+                typeBoth(x, model, text.toString());
+                Check.due("submit of " + text, x.submit(), model.submit());
+                Check.due("state after " + text, Check.everything(x), model.everything());
+            }
+        }
+    }
+
     public static void main(String[] args) {
+        everyShortTail("http://a");
+        everyShortTail("https://a/");
+        everyShortTail("http://a/b/");
         for (int seed = 0; seed < 1500; seed++) {
             Random random = new Random(seed);
             int maxUrls = random.nextInt(40);

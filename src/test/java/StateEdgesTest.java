@@ -6,6 +6,8 @@ public final class StateEdgesTest {
         Check.sentence("There are at most maxUrls of them.", StateEdgesTest::urlCapacity);
         Check.sentence("Their canonical texts together hold at most 256 characters (the URL pool).",
                 StateEdgesTest::urlPoolCapacity);
+        Check.sentence("Each URL has a canonical text, a state (`STATE_QUEUED`, `STATE_DISPATCHED` or `STATE_BLOCKED`),"
+                + " a host id and a dispatch time.", StateEdgesTest::urlParts);
         Check.sentence("The dispatch time is -1 until the URL is dispatched.", StateEdgesTest::timeUntilDispatched);
         Check.sentence("a list of hosts with ids 0..7 in order of creation.", StateEdgesTest::hostCapacity);
         Check.sentence("Each has a name (1..16 characters), a delay (1..16), a next-allowed time and a count of"
@@ -83,6 +85,21 @@ public final class StateEdgesTest {
         Check.submitRefused(exact, "http://a", CrawlFrontier.FULL);
         Check.submitRefused(Made.withUrlChars(248), "http://a", CrawlFrontier.FULL);
         Check.due("the last nine", Check.submit(Made.withUrlChars(247), "http://a"), 6);
+    }
+
+    private static void urlParts() {
+        CrawlFrontier x = new CrawlFrontier(8, 1);
+        Check.setDelay(x, "http://b", 4);
+        Check.submit(x, "HTTP://A:80/./1#f");
+        Check.submit(x, "https://b:0443?q");
+        Check.submit(x, "http://a:081/%2e%2E/2");
+        x.tick(2);
+        Check.disallow(x, "http://a/2");
+        Check.submit(x, "http://b/3/..");
+        Check.due("urls", Check.urls(x), "\n  kind 0 http://a/1 2 1 1 -1 -1 -1 -1"
+                + "\n  kind 0 https://b/?q 2 0 0 -1 -1 -1 -1"
+                + "\n  kind 0 http://a:81/2 3 1 -1 -1 -1 -1 -1"
+                + "\n  kind 0 http://b/ 1 0 -1 -1 -1 -1 -1");
     }
 
     private static void timeUntilDispatched() {
